@@ -30,13 +30,13 @@ public final class AllShortListsTest {
     private static void block(int symbols, int[] block) {
         String name = symbols + java.util.Arrays.toString(block);
         LyndonTransform x = Coders.make(symbols, 24, block, Coders.NOTHING);
-        Model model = model(symbols, 24, block, Coders.NOTHING);
+        Model model = Model.with(symbols, 24, block, Coders.NOTHING);
         CHECK.due(name + " factors", Coders.factorStarts(x), model.factorStarts());
         CHECK.due(name + " rows", Coders.rows(x), model.rowPositions());
         CHECK.due(name + " invert", x.invert(), model.invert());
         CHECK.due(name + " after invert", Coders.state(x), model.state());
         x = Coders.make(symbols, 24, block, Coders.NOTHING);
-        model = model(symbols, 24, block, Coders.NOTHING);
+        model = Model.with(symbols, 24, block, Coders.NOTHING);
         CHECK.due(name + " transform", x.transform(), model.transform());
         CHECK.due(name + " after transform", Coders.state(x), model.state());
         x.front();
@@ -54,20 +54,9 @@ public final class AllShortListsTest {
     private static void code(int symbols, int[] code) {
         String name = symbols + " code " + java.util.Arrays.toString(code);
         LyndonTransform x = Coders.make(symbols, 8, Coders.of(1, 0, 1), code);
-        Model model = model(symbols, 8, Coders.of(1, 0, 1), code);
+        Model model = Model.with(symbols, 8, Coders.of(1, 0, 1), code);
         CHECK.due(name + " unpack", x.unpack(), model.unpack());
         CHECK.due(name + " after unpack", Coders.state(x), model.state());
-    }
-
-    private static Model model(int symbols, int capacity, int[] block, int[] code) {
-        Model model = new Model(symbols, capacity);
-        for (int s : block) {
-            model.put(s);
-        }
-        for (int t : code) {
-            model.putToken(t);
-        }
-        return model;
     }
 
     private static long power(int base, int exponent) {

@@ -5,11 +5,22 @@ final class Check {
     private static final int MOST_PRINTED = 20;
 
     private final String title;
+    private String sentence = "";
+    private long sentences = 0;
+    private long askedBefore = 0;
     private long asked = 0;
     private long wrong = 0;
 
     Check(String title) {
         this.title = title;
+    }
+
+    /** What is asked from here on shows whether this sentence of the document holds. */
+    void sentence(String words) {
+        mustHaveAsked();
+        sentence = words;
+        sentences++;
+        askedBefore = asked;
     }
 
     void due(String what, int got, int want) {
@@ -36,13 +47,23 @@ final class Check {
     private void tell(String what, String got, String want) {
         wrong++;
         if (wrong <= MOST_PRINTED) {
-            System.out.println(title + ": " + what + " answered " + got + ", due is " + want);
+            String place = sentence.isEmpty() ? "" : " '" + sentence + "'";
+            System.out.println(title + place + ": " + what + " answered " + got + ", due is " + want);
+        }
+    }
+
+    // A test that asked nothing has shown nothing.
+    private void mustHaveAsked() {
+        if (sentences > 0 && asked == askedBefore) {
+            wrong++;
+            System.out.println(title + " '" + sentence + "': nothing was asked");
         }
     }
 
     void finish() {
-        System.out.println(title + ": " + asked + " answers, " + wrong + " not as due");
-        // A test that asked nothing has shown nothing.
+        mustHaveAsked();
+        String of = sentences > 0 ? sentences + " sentences, " : "";
+        System.out.println(title + ": " + of + asked + " answers, " + wrong + " not as due");
         if (wrong != 0 || asked == 0) {
             System.exit(1);
         }

@@ -15,6 +15,17 @@ final class Model {
         c = Math.min(Math.max(capacity, 8), 24);
     }
 
+    static Model with(int symbols, int capacity, int[] block, int[] code) {
+        Model model = new Model(symbols, capacity);
+        for (int s : block) {
+            model.put(s);
+        }
+        for (int t : code) {
+            model.putToken(t);
+        }
+        return model;
+    }
+
     int limit(int which) {
         return which == 0 ? k : which == 1 ? c : -1;
     }
@@ -54,7 +65,7 @@ final class Model {
         List<Integer> starts = starts();
         List<Integer> next = new ArrayList<>();
         for (int p : rows()) {
-            int s = startOfFactorWith(p);
+            int s = startOfFactorWith(starts, p);
             next.add(p > s ? block.get(p - 1) : block.get(s + lengthOfFactorAt(s) - 1));
         }
         block = next;
@@ -185,6 +196,10 @@ final class Model {
         return array(block);
     }
 
+    int[] code() {
+        return array(code);
+    }
+
     int[] factorStarts() {
         return array(starts());
     }
@@ -235,16 +250,16 @@ final class Model {
         return starts;
     }
 
-    private int startOfFactorWith(int p) {
+    private static int startOfFactorWith(List<Integer> starts, int p) {
         int found = 0;
-        for (int s : starts()) {
+        for (int s : starts) {
             found = s <= p ? s : found;
         }
         return found;
     }
 
-    private int[] endlessWord(int p) {
-        int s = startOfFactorWith(p);
+    private int[] endlessWord(List<Integer> starts, int p) {
+        int s = startOfFactorWith(starts, p);
         int l = lengthOfFactorAt(s);
         int[] word = new int[48];
         for (int i = 0; i < word.length; i++) {
@@ -254,10 +269,11 @@ final class Model {
     }
 
     private List<Integer> rows() {
+        List<Integer> starts = starts();
         List<int[]> words = new ArrayList<>();
         List<Integer> rows = new ArrayList<>();
         for (int p = 0; p < block.size(); p++) {
-            words.add(endlessWord(p));
+            words.add(endlessWord(starts, p));
             rows.add(p);
         }
         // The sort is stable, so positions with the same word keep their order.

@@ -3,25 +3,46 @@ public final class Promise02LimitTest {
     private static final Check CHECK = new Check("Promise02LimitTest");
 
     public static void main(String[] args) {
-        for (int k = 2; k <= 16; k++) {
-            for (int c = 8; c <= 24; c++) {
-                LyndonTransform x = new LyndonTransform(k, c);
-                CHECK.due("limit(0)", x.limit(0), k);
-                CHECK.due("limit(1)", x.limit(1), c);
-                CHECK.due("limit(2)", x.limit(2), LyndonTransform.NONE);
-            }
-        }
-        wrongNumbers();
+        zeroAndOne();
+        anyOther();
+        changesNothing();
         CHECK.finish();
     }
 
-    private static void wrongNumbers() {
-        int[] block = {3, 0, 3};
-        int[] code = {4, 1};
-        LyndonTransform x = Coders.make(4, 10, block, code);
-        for (int which : Coders.join(Coders.of(2, 3, 4, 8, 10, 16, 24), Coders.BELOW_ZERO, Coders.FAR_ABOVE)) {
+    private static void zeroAndOne() {
+        CHECK.sentence("which = 0: answers K. which = 1: answers C.");
+        States.eachLimits((k, c) -> {
+            LyndonTransform x = new LyndonTransform(k, c);
+            CHECK.due("limit(0)", x.limit(0), k);
+            CHECK.due("limit(1)", x.limit(1), c);
+            x = Coders.make(k, c, States.mixed(k, c), Coders.repeat(k, c));
+            CHECK.due("limit(0) of a full object", x.limit(0), k);
+            CHECK.due("limit(1) of a full object", x.limit(1), c);
+        });
+    }
+
+    private static void anyOther() {
+        CHECK.sentence("Any other which, negative or positive: answers NONE.");
+        States.eachLimits((k, c) -> {
+            noneFor(new LyndonTransform(k, c));
+            noneFor(Coders.make(k, c, States.mixed(k, c), Coders.repeat(k, c)));
+        });
+    }
+
+    private static void noneFor(LyndonTransform x) {
+        for (int which : Coders.join(Coders.BELOW_ZERO, Coders.range(2, 24), Coders.FAR_ABOVE)) {
             CHECK.due("limit(" + which + ")", x.limit(which), LyndonTransform.NONE);
         }
-        CHECK.due("state afterwards", Coders.state(x), Coders.state(4, 10, block, code));
+    }
+
+    private static void changesNothing() {
+        CHECK.sentence("It changes nothing.");
+        States.each((k, c, block, code) -> {
+            LyndonTransform x = Coders.make(k, c, block, code);
+            for (int which : Coders.join(Coders.BELOW_ZERO, Coders.range(0, 24), Coders.FAR_ABOVE)) {
+                x.limit(which);
+            }
+            CHECK.due("state afterwards", Coders.state(x), Coders.state(k, c, block, code));
+        });
     }
 }

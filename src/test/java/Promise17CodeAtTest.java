@@ -3,39 +3,74 @@ public final class Promise17CodeAtTest {
     private static final Check CHECK = new Check("Promise17CodeAtTest");
 
     public static void main(String[] args) {
-        for (int m = 0; m <= 24; m++) {
-            LyndonTransform x = Coders.make(16, 24, Coders.repeat(9, 24 - m), Coders.NOTHING);
-            for (int i = 0; i < m; i++) {
-                x.putToken((i * 7 + 16) % 17);
-            }
-            inAndOut(x, m);
-        }
+        everyPlace();
+        everyOtherNumber();
+        emptyCode();
         oldCellsAreHidden();
+        changesNothing();
         CHECK.finish();
     }
 
-    private static void inAndOut(LyndonTransform x, int m) {
-        int[] before = Coders.state(x);
-        for (int i = 0; i < m; i++) {
-            CHECK.due("m=" + m + " codeAt(" + i + ")", x.codeAt(i), (i * 7 + 16) % 17);
-        }
-        for (int i = m; i <= 26; i++) {
-            CHECK.due("m=" + m + " codeAt(" + i + ")", x.codeAt(i), LyndonTransform.NONE);
-        }
-        for (int i : Coders.join(Coders.BELOW_ZERO, Coders.FAR_ABOVE)) {
-            CHECK.due("m=" + m + " codeAt(" + i + ")", x.codeAt(i), LyndonTransform.NONE);
-        }
-        CHECK.due("state afterwards", Coders.state(x), before);
+    private static void everyPlace() {
+        CHECK.sentence("codeAt(int i) answers c[i] if 0 <= i < m.");
+        States.eachLimits((k, c) -> {
+            for (int m = 1; m <= c; m++) {
+                int[] code = States.mixed(k + 1, m);
+                LyndonTransform x = Coders.make(k, c, Coders.of(1, 1, 1), code);
+                for (int i = 0; i < m; i++) {
+                    CHECK.due("m=" + m + " codeAt(" + i + ")", x.codeAt(i), code[i]);
+                }
+            }
+        });
     }
 
-    // What stood behind the end before must not be answered.
+    private static void everyOtherNumber() {
+        CHECK.sentence("For every other i it answers NONE");
+        States.eachLimits((k, c) -> {
+            for (int m = 1; m <= c; m++) {
+                noneFor(Coders.make(k, c, Coders.repeat(1, c), Coders.repeat(2, m)), m);
+            }
+        });
+    }
+
+    private static void emptyCode() {
+        CHECK.sentence("on an empty code that is every i");
+        States.eachLimits((k, c) -> {
+            noneFor(new LyndonTransform(k, c), 0);
+            noneFor(Coders.make(k, c, Coders.repeat(1, c), Coders.NOTHING), 0);
+            LyndonTransform x = Coders.make(k, c, Coders.NOTHING, Coders.repeat(2, c));
+            x.pack();
+            noneFor(x, 0);
+        });
+    }
+
+    private static void noneFor(LyndonTransform x, int m) {
+        for (int i : Coders.outside(m)) {
+            CHECK.due("m=" + m + " codeAt(" + i + ")", x.codeAt(i), LyndonTransform.NONE);
+        }
+    }
+
     private static void oldCellsAreHidden() {
-        LyndonTransform x = Coders.make(4, 8, Coders.of(3), Coders.repeat(2, 8));
-        x.pack();
-        CHECK.due("codeAt(0) after pack", x.codeAt(0), 4);
-        CHECK.due("codeAt(1) after pack", x.codeAt(1), LyndonTransform.NONE);
-        x.clear();
-        x.pack();
-        CHECK.due("codeAt(0) of an empty code", x.codeAt(0), LyndonTransform.NONE);
+        CHECK.sentence("For every other i it answers NONE (also where a longer code had tokens before)");
+        States.eachLimits((k, c) -> {
+            LyndonTransform x = Coders.make(k, c, Coders.of(k - 1), Coders.repeat(2, c));
+            x.pack();
+            CHECK.due("codeAt(0) after pack", x.codeAt(0), k);
+            noneFor(x, 1);
+            x.putToken(0);
+            CHECK.due("codeAt(1) after putToken", x.codeAt(1), 0);
+            noneFor(x, 2);
+        });
+    }
+
+    private static void changesNothing() {
+        CHECK.sentence("It changes nothing.");
+        States.each((k, c, block, code) -> {
+            LyndonTransform x = Coders.make(k, c, block, code);
+            for (int i : Coders.outside(0)) {
+                x.codeAt(i);
+            }
+            CHECK.due("state afterwards", Coders.state(x), Coders.state(k, c, block, code));
+        });
     }
 }

@@ -4,11 +4,7 @@ final class Words {
     }
 
     static Model model(int symbols, int[] block) {
-        Model model = new Model(symbols, 24);
-        for (int s : block) {
-            model.put(s);
-        }
-        return model;
+        return Model.with(symbols, 24, block, Coders.NOTHING);
     }
 
     /** A word of that length that is partly made of copies of its own earlier pieces. */
