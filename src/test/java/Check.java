@@ -2,12 +2,13 @@ import java.util.Arrays;
 
 /** Prints every answer that is not the one due, and ends the program with exit code 1 if there was one. */
 final class Check {
-    private static final int MOST_PRINTED = 20;
+    private static final int MOST_PRINTED_OF_ONE_SENTENCE = 10;
 
     private final String title;
     private String sentence = "";
     private long sentences = 0;
     private long askedBefore = 0;
+    private long wrongBefore = 0;
     private long asked = 0;
     private long wrong = 0;
 
@@ -21,6 +22,7 @@ final class Check {
         sentence = words;
         sentences++;
         askedBefore = asked;
+        wrongBefore = wrong;
     }
 
     void due(String what, int got, int want) {
@@ -46,7 +48,7 @@ final class Check {
 
     private void tell(String what, String got, String want) {
         wrong++;
-        if (wrong <= MOST_PRINTED) {
+        if (wrong - wrongBefore <= MOST_PRINTED_OF_ONE_SENTENCE) {
             String place = sentence.isEmpty() ? "" : " '" + sentence + "'";
             System.out.println(title + place + ": " + what + " answered " + got + ", due is " + want);
         }

@@ -1,3 +1,4 @@
+import java.util.Arrays;
 import java.util.function.IntUnaryOperator;
 import java.util.stream.IntStream;
 
@@ -218,20 +219,28 @@ public final class Promise01ConstructionTest {
             LyndonTransform x = Coders.make(k, c, block, code);
             int[] before = Coders.answers(x);
             for (int wrong : Coders.join(Coders.BELOW_ZERO, Coders.range(k + 1, 24), Coders.FAR_ABOVE)) {
-                CHECK.due("put(" + wrong + ")", x.put(wrong), LyndonTransform.BAD);
-                CHECK.due("putToken(" + wrong + ")", x.putToken(wrong), LyndonTransform.BAD);
+                refused(x, before, "put(" + wrong + ")", x.put(wrong), LyndonTransform.BAD);
+                refused(x, before, "putToken(" + wrong + ")", x.putToken(wrong), LyndonTransform.BAD);
             }
-            if (block.length == c) {
-                CHECK.due("put(1) in a full block", x.put(1), LyndonTransform.FULL);
-            }
-            if (code.length == c) {
-                CHECK.due("putToken(1) in a full code", x.putToken(1), LyndonTransform.FULL);
+            for (int right = 0; right < k; right++) {
+                if (block.length == c) {
+                    refused(x, before, "put(" + right + ")", x.put(right), LyndonTransform.FULL);
+                }
+                if (code.length == c) {
+                    refused(x, before, "putToken(" + right + ")", x.putToken(right), LyndonTransform.FULL);
+                }
             }
             if (Model.with(k, c, block, code).unpack() == LyndonTransform.TOO_LONG) {
-                CHECK.due("unpack() of a long code", x.unpack(), LyndonTransform.TOO_LONG);
+                refused(x, before, "unpack()", x.unpack(), LyndonTransform.TOO_LONG);
             }
             CHECK.due("answers after refused calls", Coders.answers(x), before);
         });
+    }
+
+    private static void refused(LyndonTransform x, int[] before, String call, int got, int want) {
+        CHECK.due(call, got, want);
+        int[] state = Coders.state(x);
+        CHECK.due("state after " + call, state, Arrays.copyOf(before, state.length));
     }
 
     private static void objectsAreApart() {

@@ -39,10 +39,11 @@ public final class Promise02LimitTest {
         CHECK.sentence("It changes nothing.");
         States.each((k, c, block, code) -> {
             LyndonTransform x = Coders.make(k, c, block, code);
+            int[] before = Coders.state(k, c, block, code);
             for (int which : Coders.join(Coders.BELOW_ZERO, Coders.range(0, 24), Coders.FAR_ABOVE)) {
                 x.limit(which);
+                CHECK.due("state after limit(" + which + ")", Coders.state(x), before);
             }
-            CHECK.due("state afterwards", Coders.state(x), Coders.state(k, c, block, code));
         });
     }
 }

@@ -22,10 +22,12 @@ public final class Promise03PutTest {
     private static void refused(int k, int c, int[] block, int[] symbols, int answer) {
         for (int[] code : new int[][] {Coders.NOTHING, Coders.of(k, 0, 1), Coders.repeat(k, c)}) {
             LyndonTransform x = Coders.make(k, c, block, code);
+            int[] before = Coders.state(k, c, block, code);
             for (int s : symbols) {
-                CHECK.due("K=" + k + " C=" + c + " n=" + block.length + " put(" + s + ")", x.put(s), answer);
+                String call = "K=" + k + " C=" + c + " n=" + block.length + " put(" + s + ")";
+                CHECK.due(call, x.put(s), answer);
+                CHECK.due("state after " + call, Coders.state(x), before);
             }
-            CHECK.due("state after refused calls", Coders.state(x), Coders.state(k, c, block, code));
         }
     }
 

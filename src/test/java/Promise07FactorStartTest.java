@@ -175,10 +175,11 @@ public final class Promise07FactorStartTest {
         CHECK.sentence("It changes nothing.");
         States.each((k, c, block, code) -> {
             LyndonTransform x = Coders.make(k, c, block, code);
+            int[] before = Coders.state(k, c, block, code);
             for (int j : Coders.outside(0)) {
                 x.factorStart(j);
+                CHECK.due("state after factorStart(" + j + ")", Coders.state(x), before);
             }
-            CHECK.due("state afterwards", Coders.state(x), Coders.state(k, c, block, code));
         });
     }
 }

@@ -163,10 +163,11 @@ public final class Promise08RowAtTest {
         CHECK.sentence("It changes nothing.");
         States.each((k, c, block, code) -> {
             LyndonTransform x = Coders.make(k, c, block, code);
+            int[] before = Coders.state(k, c, block, code);
             for (int r : Coders.outside(0)) {
                 x.rowAt(r);
+                CHECK.due("state after rowAt(" + r + ")", Coders.state(x), before);
             }
-            CHECK.due("state afterwards", Coders.state(x), Coders.state(k, c, block, code));
         });
     }
 }

@@ -23,10 +23,12 @@ public final class Promise15PutTokenTest {
     private static void refused(int k, int c, int[] code, int[] tokens, int answer) {
         for (int[] block : new int[][] {Coders.NOTHING, Coders.of(k - 1, 0, 1), Coders.repeat(k - 1, c)}) {
             LyndonTransform x = Coders.make(k, c, block, code);
+            int[] before = Coders.state(k, c, block, code);
             for (int t : tokens) {
-                CHECK.due("K=" + k + " C=" + c + " m=" + code.length + " putToken(" + t + ")", x.putToken(t), answer);
+                String call = "K=" + k + " C=" + c + " m=" + code.length + " putToken(" + t + ")";
+                CHECK.due(call, x.putToken(t), answer);
+                CHECK.due("state after " + call, Coders.state(x), before);
             }
-            CHECK.due("state after refused calls", Coders.state(x), Coders.state(k, c, block, code));
         }
     }
 

@@ -67,10 +67,11 @@ public final class Promise17CodeAtTest {
         CHECK.sentence("It changes nothing.");
         States.each((k, c, block, code) -> {
             LyndonTransform x = Coders.make(k, c, block, code);
+            int[] before = Coders.state(k, c, block, code);
             for (int i : Coders.outside(0)) {
                 x.codeAt(i);
+                CHECK.due("state after codeAt(" + i + ")", Coders.state(x), before);
             }
-            CHECK.due("state afterwards", Coders.state(x), Coders.state(k, c, block, code));
         });
     }
 }
