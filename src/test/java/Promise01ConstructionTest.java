@@ -20,6 +20,7 @@ public final class Promise01ConstructionTest {
         answersDoNotHangOnThePast();
         answersHangOnEveryLimit();
         questionsChangeNothing();
+        otherListStays();
         refusedCallsChangeNothing();
         objectsAreApart();
         CHECK.finish();
@@ -210,6 +211,21 @@ public final class Promise01ConstructionTest {
                 CHECK.due("state after " + call.name(), Coders.state(x), Coders.state(k, c, block, code));
             }
             CHECK.due("answers after all questions", Coders.answers(x), before);
+        });
+    }
+
+    // Each call that changes a list leaves the other one alone.
+    private static void otherListStays() {
+        States.each((k, c, block, code) -> {
+            for (Calls.Call call : Calls.all(k, c)) {
+                LyndonTransform x = Coders.make(k, c, block, code);
+                call.onCoder().applyAsInt(x);
+                if (call.name().startsWith("pack") || call.name().startsWith("putToken")) {
+                    CHECK.due("block after " + call.name(), Coders.block(x), block);
+                } else {
+                    CHECK.due("code after " + call.name(), Coders.code(x), code);
+                }
+            }
         });
     }
 
