@@ -63,9 +63,11 @@ public final class FaceTest {
 
     private static void fields() {
         Set<String> open = new TreeSet<>();
+        int notStatic = 0;
         for (Field field : FACE.getDeclaredFields()) {
             int modifiers = field.getModifiers();
             Class<?> type = field.getType();
+            notStatic += Modifier.isStatic(modifiers) ? 0 : 1;
             if (!Modifier.isPrivate(modifiers)) {
                 open.add(type + " " + field.getName());
                 CHECK.isTrue(field + " is a constant",
@@ -79,6 +81,7 @@ public final class FaceTest {
             CHECK.isTrue(field + " holds whole numbers or truth values",
                 cell.isPrimitive() && cell != float.class && cell != double.class);
         }
+        CHECK.isTrue("at most some forty fields: " + notStatic, notStatic <= 40);
         CHECK.isTrue("the public constants are the document's: " + open, open.equals(CONSTANTS));
     }
 }

@@ -23,6 +23,9 @@ public final class LanguageTest {
         Pattern.DOTALL | Pattern.MULTILINE);
     private static final Pattern ARRAY_FIELD = Pattern.compile(
         "    private final (?:int|boolean|long|short|byte|char)\\[\\] \\w+ = new \\w+\\[(?:[A-Z_]+|[1-9]\\d*)\\];");
+    // Rule 8 leaves other loops too; the class needs none, and this form shows its end at once.
+    private static final Pattern LOOP = Pattern.compile(
+        " *for \\(int (\\w+) = [\\w +]+; \\1 [<>] \\w+(?: && [\\w >]+)?; \\1(?:\\+\\+|--)\\) \\{");
     private static final int MOST_LINES = 60;
     private static final int DEEPEST = 6;
 
@@ -38,6 +41,7 @@ public final class LanguageTest {
         CHECK.isTrue("the methods are found", BODIES.size() > 16);
         forbiddenWords(text);
         arrays(text);
+        loops(text);
         methods();
         CHECK.finish();
     }
@@ -60,6 +64,14 @@ public final class LanguageTest {
         for (String line : text.split("\\n")) {
             if (line.matches(".*\\bnew\\b.*")) {
                 CHECK.isTrue("made at the start, with a constant length: " + line, ARRAY_FIELD.matcher(line).matches());
+            }
+        }
+    }
+
+    private static void loops(String text) {
+        for (String line : text.split("\\n")) {
+            if (line.matches(".*\\b(?:for|while|do)\\b.*")) {
+                CHECK.isTrue("a counter against a bound: " + line, LOOP.matcher(line).matches());
             }
         }
     }
